@@ -13,6 +13,7 @@ public final class RoadLinks {
     private static final int ROWS = 3;
     private static final int MOST_PLACES = 40;
     private static final int NO_ROW = -1;
+    private static final long LEAST_LONG = -9223372036854775808L;
     private static final int MOST_BYTES = 120;
     private static final int LEAST_BYTE = 32;
     private static final int GREATEST_BYTE = 126;
@@ -322,7 +323,7 @@ public final class RoadLinks {
     }
 
     public long get(int r, int i) {
-        if (!isRow(r) || i < 0 || i >= sizes[r]) return Long.MIN_VALUE;
+        if (!isRow(r) || i < 0 || i >= sizes[r]) return LEAST_LONG;
         return rows[r][i];
     }
 

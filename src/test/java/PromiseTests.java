@@ -87,6 +87,8 @@ public final class PromiseTests {
         RoadLinks x = new RoadLinks();
         due("1 count(0)", x.count(0), 1);
         for (int what = 1; what <= 6; what++) due("1 count " + what, x.count(what), 0);
+        due("1 rank(2, 1)", x.rank(2, 1), 1);
+        due("1 rank(0, 1)", x.rank(0, 1), 0);
         due("1 undo()", x.undo(), -3);
         for (int r = 0; r < 3; r++) due("1 lose " + r, x.lose(r), -11);
         TALLY.dueText("1 spelled", Texts.spelled(x), "posts 1");
@@ -836,6 +838,10 @@ public final class PromiseTests {
             y.add(255);
         }
         y.targets(255);
+        x.change(2, 0);
+        int length = x.spelled(-1);
+        due("43 sets without posts go", x.small(), 0);
+        due("43 shorter by two sets", x.spelled(-1), length - ";set;set".length());
         due("43 the longest text", y.spelled(-1), 7 + 56 * 9 + 8 * 5 + 8 * 20 + 8 * 11);
         due("43 its last byte", y.spelled(798), '9');
         due("43 behind it", y.spelled(799), -1);

@@ -112,7 +112,7 @@ public final class RulesTests {
             Tree.Kind.LAMBDA_EXPRESSION, Tree.Kind.MEMBER_REFERENCE, Tree.Kind.SWITCH_EXPRESSION,
             Tree.Kind.INSTANCE_OF, Tree.Kind.YIELD);
         private static final Set<String> LIBRARY =
-            Set.of("System.arraycopy", "Integer.bitCount", "Math.min", "Math.max", "Long.MIN_VALUE");
+            Set.of("System.arraycopy", "Integer.bitCount", "Math.min", "Math.max");
         private static final Set<String> LIBRARY_CLASSES =
             Set.of("System", "Integer", "Long", "Math", "Arrays", "List", "Short", "Byte", "Character", "Double");
 
