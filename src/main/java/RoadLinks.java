@@ -41,7 +41,7 @@ public final class RoadLinks {
     private final Table table = new Table();
     private final Table kept = new Table();
     private boolean isKept = false;
-    private final Ranks ranks = new Ranks(table);
+    private final Ranks ranks = new Ranks();
     private final Choice choice = new Choice();
     private final int[][] rows = new int[ROWS][MOST_PLACES];
     private final int[] sizes = {NO_ROW, NO_ROW, NO_ROW};
@@ -274,7 +274,7 @@ public final class RoadLinks {
         int idle = 0;
         for (int k = 0; k < table.sets; k++) {
             // A set without posts matches as much as one that is gone.
-            if (now.stays(k, 0)) idle |= 1 << k;
+            if (now.stays(table, k, 0)) idle |= 1 << k;
         }
         return idle;
     }
@@ -285,7 +285,7 @@ public final class RoadLinks {
         for (int k = 0; k < table.sets; k++) {
             for (int e = 0; e < table.posts; e++) {
                 int without = table.family[k] & ~(1 << e);
-                if (has(table.family[k], e) && now.stays(k, without)) {
+                if (has(table.family[k], e) && now.stays(table, k, without)) {
                     table.replace(k, without);
                     out++;
                 }
@@ -443,7 +443,7 @@ public final class RoadLinks {
     }
 
     private Ranks freshRanks() {
-        ranks.refresh();
+        ranks.refresh(table);
         return ranks;
     }
 
@@ -466,7 +466,7 @@ public final class RoadLinks {
         int set = table.family[k];
         int fit = 0;
         for (int e = 0; e < table.posts; e++) {
-            if (has(some, e) && now.stays(k, set ^ 1 << e)) fit |= 1 << e;
+            if (has(some, e) && now.stays(table, k, set ^ 1 << e)) fit |= 1 << e;
         }
         return fit;
     }
@@ -695,19 +695,18 @@ public final class RoadLinks {
 
     /** The ranks of all sets of posts by the four sides, and what is told by ranks alone. */
     private static final class Ranks {
-        private final Table table;
         private final Matched matched = new Matched();
         private final Matched trial = new Matched();
         private final int[] byTurned = new int[MOST_SUBSETS];
         private final int[] byFamily = new int[MOST_SUBSETS];
+        private int posts = 0;
+        private int all = 0;
         private int madeAt = -1;
 
-        Ranks(Table table) {
-            this.table = table;
-        }
-
-        void refresh() {
+        void refresh(Table table) {
             if (madeAt == table.changes) return;
+            posts = table.posts;
+            all = table.all();
             trial.begin();
             for (int v = 0; v < table.posts; v++) {
                 if (!has(table.targets, v)) trial.join(table.roads[v] | 1 << v);
@@ -720,7 +719,6 @@ public final class RoadLinks {
         }
 
         private void fill(int[] ranks, Matched free) {
-            int all = table.all();
             for (int x = 0; x <= all; x++) {
                 ranks[x] = free.holds(x) ? Integer.bitCount(x) : greatestWithin(ranks, x);
             }
@@ -728,7 +726,7 @@ public final class RoadLinks {
 
         private int greatestWithin(int[] ranks, int x) {
             int greatest = 0;
-            for (int e = 0; e < table.posts; e++) {
+            for (int e = 0; e < posts; e++) {
                 if (has(x, e)) greatest = Math.max(greatest, ranks[x & ~(1 << e)]);
             }
             return greatest;
@@ -738,7 +736,6 @@ public final class RoadLinks {
             // The dual of the roads is the family that turned() makes (Ingleton and Piff).
             int[] plain = w == 0 || w == 2 ? byTurned : byFamily;
             if (w == 1 || w == 2) return plain[x];
-            int all = table.all();
             return Integer.bitCount(x) + plain[all & ~x] - plain[all];
         }
 
@@ -747,7 +744,7 @@ public final class RoadLinks {
         }
 
         boolean isBase(int w, int x) {
-            return isFree(w, x) && of(w, x) == of(w, table.all());
+            return isFree(w, x) && of(w, x) == of(w, all);
         }
 
         boolean isOf(int kind, int w, int x) {
@@ -761,7 +758,7 @@ public final class RoadLinks {
 
         private boolean isCircuit(int w, int x) {
             if (isFree(w, x)) return false;
-            for (int e = 0; e < table.posts; e++) {
+            for (int e = 0; e < posts; e++) {
                 if (has(x, e) && !isFree(w, x & ~(1 << e))) return false;
             }
             return true;
@@ -769,16 +766,15 @@ public final class RoadLinks {
 
         int shutOf(int w, int x) {
             int shut = x;
-            for (int e = 0; e < table.posts; e++) {
+            for (int e = 0; e < posts; e++) {
                 if (of(w, x | 1 << e) == of(w, x)) shut |= 1 << e;
             }
             return shut;
         }
 
         int boundOf(int w) {
-            int all = table.all();
             int bound = 0;
-            for (int e = 0; e < table.posts; e++) {
+            for (int e = 0; e < posts; e++) {
                 if (of(w, all & ~(1 << e)) < of(w, all)) bound |= 1 << e;
             }
             return bound;
@@ -787,14 +783,14 @@ public final class RoadLinks {
         /** The circuit within a base and a post: those posts without which the others are a base. */
         int roundOf(int w, int x) {
             int round = 0;
-            for (int e = 0; e < table.posts; e++) {
+            for (int e = 0; e < posts; e++) {
                 if (has(x, e) && isBase(w, x & ~(1 << e))) round |= 1 << e;
             }
             return round;
         }
 
         int swapOf(int w, int rest, int others) {
-            for (int f = 0; f < table.posts; f++) {
+            for (int f = 0; f < posts; f++) {
                 if (has(others, f) && isBase(w, rest | 1 << f)) return f;
             }
             return NOT;
@@ -803,8 +799,8 @@ public final class RoadLinks {
         /** How many bases differ from base x by one post each and are greater as bits. */
         int stepsUp(int w, int x) {
             int steps = 0;
-            for (int e = 0; e < table.posts; e++) {
-                for (int f = e + 1; f < table.posts; f++) {
+            for (int e = 0; e < posts; e++) {
+                for (int f = e + 1; f < posts; f++) {
                     if (has(x, e) && !has(x, f) && isBase(w, x & ~(1 << e) | 1 << f)) steps++;
                 }
             }
@@ -812,7 +808,7 @@ public final class RoadLinks {
         }
 
         /** Whether the family would have the bases that it has, if its set k were another one. */
-        boolean stays(int k, int set) {
+        boolean stays(Table table, int k, int set) {
             trial.begin();
             for (int j = 0; j < table.sets; j++) trial.join(j == k ? set : table.family[j]);
             return trial.isLike(matched);

@@ -205,6 +205,7 @@ public final class RulesTests {
         @Override
         public Void visitNewClass(NewClassTree tree, Void none) {
             TALLY.isSo("objects are made with the object: " + tree, methods.isEmpty() && tree.getClassBody() == null);
+            TALLY.isSo("nothing of the object is handed out: " + tree, tree.getArguments().isEmpty());
             return super.visitNewClass(tree, none);
         }
 
