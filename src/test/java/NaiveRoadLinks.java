@@ -585,7 +585,7 @@ final class NaiveRoadLinks {
         return add(set) >= 0;
     }
 
-    private String spelling() {
+    String spelling() {
         StringBuilder text = new StringBuilder("posts " + n);
         for (int i = 0; i < n; i++) {
             for (int j = 0; j < n; j++) if (roads[i][j]) text.append(";road " + i + " " + j);
